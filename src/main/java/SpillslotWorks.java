@@ -404,7 +404,7 @@ public final class SpillslotWorks {
 
     private long mixValues(long start, Works works) {
         long d = start;
-        for (int value = 0; value < MAX_VALUES; value++) {
+        for (int value = 0; value < planNow.lives.valueCount; value++) {
             if (planNow.lives.isLiving(value)) {
                 d = mix(d, value);
                 for (int what = 0; what < 8; what++) {
@@ -462,7 +462,7 @@ public final class SpillslotWorks {
         return k >= 0 && k < 32 && (set >> k & 1) == 1;
     }
 
-    // Rows are read and written by these two alone, so that no index goes unlooked at.
+    // Rows are read and written by these two, so that no index goes unlooked at.
     private static int at(int[] row, int index) {
         return index >= 0 && index < row.length ? row[index] : NONE;
     }
@@ -1104,6 +1104,8 @@ public final class SpillslotWorks {
 
     /** LIVES (Terms 5). */
     private static final class Lives {
+        // All VALUES that are in instructions have numbers below this one.
+        int valueCount;
         int livingCount;
         int callCount;
         private final Program program;
@@ -1129,6 +1131,7 @@ public final class SpillslotWorks {
         }
 
         void measure(Instructions lines, int[] starts) {
+            valueCount = 0;
             livingCount = 0;
             callCount = 0;
             fill(firsts, NONE);
@@ -1138,7 +1141,7 @@ public final class SpillslotWorks {
             for (int point = 0; point < lines.count; point++) {
                 touch(lines, point);
             }
-            for (int value = 0; value < MAX_VALUES; value++) {
+            for (int value = 0; value < valueCount; value++) {
                 if (isLiving(value)) {
                     livingCount++;
                     put(lasts, value, endOf(value, lines, starts));
@@ -1170,6 +1173,7 @@ public final class SpillslotWorks {
         }
 
         private void touchValue(int value, int point, int times) {
+            valueCount = Math.max(valueCount, value + 1);
             put(lasts, value, point);
             put(sums, value, at(sums, value) + times);
         }
@@ -1240,7 +1244,7 @@ public final class SpillslotWorks {
             int most = 0;
             for (int point = 0; point <= end; point++) {
                 int living = 0;
-                for (int value = 0; value < MAX_VALUES; value++) {
+                for (int value = 0; value < valueCount; value++) {
                     if (isLiving(value) && firstOf(value) <= point && point <= lastOf(value)) {
                         living++;
                     }
@@ -1293,7 +1297,7 @@ public final class SpillslotWorks {
                     giveSlot(lines, lives, point);
                 }
             }
-            frame = slotCount + keptInUse();
+            frame = slotCount + keptInUse(lives.valueCount);
             frame += frame & 1;
         }
 
@@ -1315,7 +1319,7 @@ public final class SpillslotWorks {
 
         private int takenBehind(Lives lives, int point) {
             int taken = 0;
-            for (int value = 0; value < MAX_VALUES; value++) {
+            for (int value = 0; value < lives.valueCount; value++) {
                 int register = at(registers, value);
                 if (register != NONE && lives.lastOf(value) > point) {
                     taken |= bit(register);
@@ -1341,7 +1345,7 @@ public final class SpillslotWorks {
         private void spillOne(Lives lives, int value, int allowed) {
             int point = lives.firstOf(value);
             int worst = value;
-            for (int other = 0; other < MAX_VALUES; other++) {
+            for (int other = 0; other < lives.valueCount; other++) {
                 if (hasBit(allowed, at(registers, other)) && lives.lastOf(other) > point
                         && isLighter(lives, other, worst)) {
                     worst = other;
@@ -1375,7 +1379,7 @@ public final class SpillslotWorks {
         // with the LIFE that begins there, if they don't end ahead of it.
         private int firstSlotFree(Lives lives, int point) {
             fill(isSlotTaken, 0);
-            for (int value = 0; value < MAX_VALUES; value++) {
+            for (int value = 0; value < lives.valueCount; value++) {
                 if (at(slots, value) != NONE && lives.lastOf(value) >= point) {
                     put(isSlotTaken, at(slots, value), 1);
                 }
@@ -1387,9 +1391,9 @@ public final class SpillslotWorks {
             return slot;
         }
 
-        private int keptInUse() {
+        private int keptInUse(int valueCount) {
             int used = 0;
-            for (int value = 0; value < MAX_VALUES; value++) {
+            for (int value = 0; value < valueCount; value++) {
                 used |= bit(at(registers, value));
             }
             return Integer.bitCount(used & machine.kept);
@@ -1795,7 +1799,7 @@ public final class SpillslotWorks {
             int registers = 0;
             int slots = 0;
             int remade = 0;
-            for (int value = 0; value < MAX_VALUES; value++) {
+            for (int value = 0; value < plan.lives.valueCount; value++) {
                 if (plan.lives.isCrossing(value, point)) {
                     registers |= bit(homes.registerOf(value));
                     slots |= bit(homes.slotOf(value));
