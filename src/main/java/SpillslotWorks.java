@@ -812,8 +812,8 @@ public final class SpillslotWorks {
         }
 
         private void coverLeaf(int node, int kind) {
-            setReads(node, NONE, NONE, NONE);
-            setParts(node, NONE, NONE, NONE);
+            setNodes(reads, node, NONE, NONE, NONE);
+            setNodes(parts, node, NONE, NONE, NONE);
             if (kind == NODE_USE) {
                 put(kinds, node, MOVE);
                 put(costs, node, 0);
@@ -829,8 +829,8 @@ public final class SpillslotWorks {
             int b = at(program.secondParts, node);
             put(kinds, node, instruction);
             put(costs, node, machine.cyclesOf(instruction) + at(costs, a) + at(costs, b));
-            setReads(node, a, b, NONE);
-            setParts(node, a, b, NONE);
+            setNodes(reads, node, a, b, NONE);
+            setNodes(parts, node, a, b, NONE);
         }
 
         // This cover and the next one must cost less than those that are told ahead of them.
@@ -848,8 +848,8 @@ public final class SpillslotWorks {
                 put(kinds, node, ADDI);
                 put(costs, node, price);
                 put(numbers, node, kind == SUB ? -number : number);
-                setReads(node, read, NONE, NONE);
-                setParts(node, read, NONE, NONE);
+                setNodes(reads, node, read, NONE, NONE);
+                setNodes(parts, node, read, NONE, NONE);
             }
         }
 
@@ -874,25 +874,19 @@ public final class SpillslotWorks {
                 put(kinds, node, FUSE);
                 put(costs, node, price);
                 put(numbers, node, 0);
-                setReads(node, x, y, z);
+                setNodes(reads, node, x, y, z);
                 if (isFirst) {
-                    setParts(node, x, y, z);
+                    setNodes(parts, node, x, y, z);
                 } else {
-                    setParts(node, z, x, y);
+                    setNodes(parts, node, z, x, y);
                 }
             }
         }
 
-        private void setReads(int node, int first, int second, int third) {
-            put(reads, READS * node, first);
-            put(reads, READS * node + 1, second);
-            put(reads, READS * node + 2, third);
-        }
-
-        private void setParts(int node, int first, int second, int third) {
-            put(parts, READS * node, first);
-            put(parts, READS * node + 1, second);
-            put(parts, READS * node + 2, third);
+        private static void setNodes(int[] row, int node, int first, int second, int third) {
+            put(row, READS * node, first);
+            put(row, READS * node + 1, second);
+            put(row, READS * node + 2, third);
         }
 
         void chooseStatement(Instructions raw, int block, int k) {
