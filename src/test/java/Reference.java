@@ -98,6 +98,8 @@ final class Reference {
         long stalls;
         int[] registers = new int[11];
         Map<Integer, Integer> memory = new HashMap<>();
+        // How often a REGISTER or SLOT is read that has what a RUN begins with, or a CALL leaves.
+        int readsOfNothing;
     }
 
     final List<Node> nodes = new ArrayList<>();
@@ -618,6 +620,7 @@ final class Reference {
             }
         }
         long[] ready = new long[11];
+        boolean[] has = new boolean[11];
         int[] g = r.registers;
         long before = -1;
         for (Op op : all) {
@@ -625,7 +628,9 @@ final class Reference {
             long begin = before + 1;
             for (int x : readRegisters(f)) {
                 begin = Math.max(begin, ready[x]);
+                r.readsOfNothing += has[x] ? 0 : 1;
             }
+            r.readsOfNothing += f[0] == 7 && !r.memory.containsKey(f[2]) ? 1 : 0;
             r.stalls += begin - before - 1;
             if (op.begins < 0) {
                 op.begins = (int) begin;
@@ -639,13 +644,16 @@ final class Reference {
                     if ((m.kept >> k & 1) == 0) {
                         g[k] = -77777;
                         ready[k] = begin;
+                        has[k] = false;
                     }
                 }
                 g[0] = result;
                 ready[0] = done;
+                has[0] = true;
             } else {
                 g[f[1]] = computed(f, g, r.memory);
                 ready[f[1]] = done;
+                has[f[1]] = true;
             }
             before = begin;
             r.cycles = done;

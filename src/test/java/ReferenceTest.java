@@ -124,6 +124,8 @@ public final class ReferenceTest {
                 Due.is(run + " answer(" + v + ") as meant", x.answer(v), y.meant(v));
             }
         }
+        // This is why what a RUN begins with, and -77777, are seen in no answer.
+        Due.is(run + " reads of what nothing has written", r.readsOfNothing, 0);
         comparePoints(run, x, y, r);
         for (int n = 0; n < y.nodes.size(); n++) {
             Due.is(run + " cost(" + n + ")", x.cost(n), y.cover(y.now, n).cost);
