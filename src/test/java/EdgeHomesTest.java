@@ -357,6 +357,10 @@ public final class EdgeHomesTest {
         Told.many("2 and 3 are in use, and KEPT", with(x, 8, 28, false), 8, 2);
         x.out(31);
         Told.many("2, 3 and 4 are in use, and KEPT", with(x, 8, 28, false), 8, 4);
+        SpillslotWorks y = Told.program(1, "0: v1 = c(5, 6)");
+        Told.many("v0 alone has one", y, 8, 2);
+        y.out(2);
+        Told.many("none has one", y, 8, 0);
     }
 
     private static void manyOfNone() {

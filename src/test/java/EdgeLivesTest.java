@@ -14,6 +14,7 @@ public final class EdgeLivesTest {
         crossesNotLast();
         crossesByCarrying();
         crossesToEnd();
+        crossesNoMore();
         weightOfEntry();
         weightOfEachRead();
         weightIsCut();
@@ -161,6 +162,23 @@ public final class EdgeLivesTest {
         Told.value("v1 is to END, and the last POINT is a CALL", x, 1, 0, 2, 100, 2, -1, 0, 1, 3);
         x.out(0);
         Told.value("v1 ends at the CALL", x, 1, 0, 1, 150, 0, -1, 0, 0, 3);
+    }
+
+    private static void crossesNoMore() {
+        Due.says("It CROSSES a CALL at a POINT");
+        SpillslotWorks x = Told.program(1, "0: v1 = c(v0, v2)", "1: v3 = c(v0, v2)");
+        Told.value("v0 CROSSES two", x, 0, 0, 4, 60, 2, -1, 0, 2, 3);
+        Told.value("v2 CROSSES one", x, 2, 1, 3, 100, 3, -1, 0, 1, 3);
+        x.take(1);
+        Told.value("v0 CROSSES one, as the other one was taken away", x, 0, 0, 3, 50, 2, -1, 0, 1,
+                2);
+        Told.value("v2 CROSSES none", x, 2, 1, 2, 100, 0, -1, 0, 0, 2);
+        x.take(0);
+        for (int k = 0; k < 6; k++) {
+            Told.statement(x, "2: v4 = v0 - v5");
+        }
+        Told.value("v0 CROSSES none, where the CALLS were", x, 0, 0, 8, 77, 0, -1, 0, 0, 7);
+        Told.value("v5 CROSSES none", x, 5, 1, 7, 100, 1, -1, 0, 0, 7);
     }
 
     private static void weightOfEntry() {

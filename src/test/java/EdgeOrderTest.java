@@ -12,6 +12,7 @@ public final class EdgeOrderTest {
         ofSeveralTheFirst();
         allThatTheyNeed();
         eachBlockForItself();
+        takenAway();
         chosenNone();
         chosenBounds();
         Due.end();
@@ -82,6 +83,10 @@ public final class EdgeOrderTest {
                 "0: v3 = v0 - v1");
         Told.lines("not their sum, and not the first one's", x, "0: 0 = LI n5 h5",
                 "0: 1 = ADD 0 0 h4", "0: 2 = MUL 0 1 h3", "0: 3 = SUB 0 1 h1");
+        SpillslotWorks y = Told.program(0, "0: v0 = 5", "0: v1 = v0 - v0", "0: v2 = v0 * v0",
+                "0: v3 = c(v0, v0)");
+        Told.lines("though each is higher than those ahead of it", y, "0: 0 = LI n5 h6",
+                "0: 3 = CALL 0 0 h5", "0: 2 = MUL 0 0 h3", "0: 1 = SUB 0 0 h1");
     }
 
     private static void heightByLatencies() {
@@ -126,6 +131,28 @@ public final class EdgeOrderTest {
         SpillslotWorks y = Told.program(0, "2: v0 = c(v1, v1)", "1: v0 = c(v1, v1)");
         Told.lines("nor a CALL for another one there", y, "e: 1 = LI n0 h0",
                 "1: 0 = CALL 1 1 h5", "2: 0 = CALL 1 1 h5");
+    }
+
+    private static void takenAway() {
+        Due.says("those that need it");
+        SpillslotWorks x = Told.program(0, "0: v0 = v1", "0: v2 = v3 - v3", "0: v4 = v0 * v2",
+                "0: v5 = v4 * v4");
+        for (int heights = 7; heights >= 1; heights -= 3) {
+            Due.is("HEIGHT of the MOVE", x.chosen(2, 7), heights);
+            Due.is("HEIGHT of the SUB", x.chosen(3, 7), heights);
+            if (heights > 1) {
+                x.take(0);
+            }
+        }
+        Told.lines("those that were taken away are not needed", x, "e: 1 = LI n0 h0",
+                "e: 3 = LI n0 h0", "0: 0 = MOVE 1 h1", "0: 2 = SUB 3 3 h1");
+        x.take(0);
+        Told.lines("one alone", x, "e: 1 = LI n0 h0", "0: 0 = MOVE 1 h1");
+        Told.statement(x, "1: v2 = v0 * v0");
+        Told.statement(x, "1: v2 = v0 * v0");
+        x.take(1);
+        Told.lines("and one in the next BLOCK", x, "e: 1 = LI n0 h0", "0: 0 = MOVE 1 h1",
+                "1: 2 = MUL 0 0 h3");
     }
 
     private static void chosenNone() {

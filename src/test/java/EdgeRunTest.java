@@ -291,7 +291,9 @@ public final class EdgeRunTest {
         Due.says("15 the most LIVES that have one POINT (or END) in common (0 without any)");
         SpillslotWorks x = Told.program(0);
         Told.many("without any", x, 15, 0);
-        x = Told.program(0, "0: v1 = 5", "1: v2 = 6");
+        x = Told.program(0, "0: v1 = 5");
+        Told.many("one at one POINT", x, 15, 1);
+        Told.statement(x, "1: v2 = 6");
         Told.many("each at a POINT of its own", x, 15, 1);
         x = Told.program(0, "0: v1 = 5", "1: v2 = v1");
         Told.many("one ends as the other one begins", x, 15, 2);

@@ -9,19 +9,23 @@ public final class EdgeWouldBeTest {
         withNothing();
         cyclesBounds();
         cyclesOfTheSame();
+        cyclesBehindTake();
         cyclesOfOther();
         enoughAtLeastFive();
         enoughAtMostEleven();
         enoughNone();
         enoughKept();
         enoughNotCrossing();
+        enoughWithTwo();
         unorderedNone();
         unorderedLonger();
         unorderedShorter();
         digestOfNothing();
         digestOfOne();
         digestWraps();
+        digestOfWith();
         nothingIsChanged();
+        machineIsAsTold();
         Due.end();
     }
 
@@ -164,6 +168,19 @@ public final class EdgeWouldBeTest {
         Due.is("of nothing", none.cyclesWith(0, 9), 0);
     }
 
+    private static void cyclesBehindTake() {
+        Due.says("Returns how many CYCLES a RUN would have with that.");
+        SpillslotWorks x = Told.program(0, "0: v0 = v1 + v1", "0: v2 = v3 * v3");
+        x.unordered();
+        x.take(0);
+        Due.is("what was taken away has no say", x.cyclesWith(3, 9), 2);
+        Due.is("unordered() behind it", x.unordered(), 0);
+        Due.is("with() behind it", x.with(5, 0, true, 13), 2);
+        x.take(0);
+        Due.is("nothing is left: cyclesWith()", x.cyclesWith(2, 9), 0);
+        Due.is("nothing is left: unordered()", x.unordered(), 0);
+    }
+
     private static void cyclesOfOther() {
         Due.says("Returns how many CYCLES a RUN would have with that.");
         SpillslotWorks x = Told.program(0, "0: v4 = v1 * v2 + v3", "0: v5 = v1 - v2");
@@ -229,6 +246,23 @@ public final class EdgeWouldBeTest {
                 "0: v5 = v3 - v4", "1: v6 = c(7, 8)");
         x.machine(8, 0, 15, true, false);
         Due.is("three at once, and none CROSSES", x.enough(), 6);
+    }
+
+    private static void enoughWithTwo() {
+        Due.says("the fewest with which nothing is SPILLED");
+        // v3 is in 2, and v4 of it begins as v3 and v1 end: TWO likes 2, which v5 needs.
+        SpillslotWorks x = Told.program(0, "0: v4 = v3 - v1", "1: v5 = 9", "1: v6 = v4 - v2",
+                "2: v7 = c(7, 8)", "3: v0 = v5");
+        x.machine(8, 4, 15, true, true);
+        Due.is("2 is KEPT, TWO", x.enough(), -1);
+        x.with(8, 4, false, 5);
+        Due.is("TWO, behind a question for another machine", x.enough(), -1);
+        x.machine(8, 4, 15, true, false);
+        Due.is("2 is KEPT, not TWO", x.enough(), 6);
+        x.with(8, 4, true, 5);
+        Due.is("not TWO, behind a question for another machine", x.enough(), 6);
+        x.machine(8, 12, 15, true, true);
+        Due.is("2 and 3 are KEPT, TWO", x.enough(), 7);
     }
 
     private static void unorderedNone() {
@@ -321,6 +355,23 @@ public final class EdgeWouldBeTest {
         Due.is("its last 64 bits", x.digest(), d.longValue());
     }
 
+    private static void digestOfWith() {
+        Due.says("with() of 6, 4, true, and 9, then 13");
+        // v1 CROSSES the CALL; behind it are four VALUES at once, and SUBS that TWO does otherwise.
+        SpillslotWorks x = Told.program(2, "0: v4 = c(v1, v1)",
+                "1: v0 = (v1 - v4) * (v4 - v1) - (v4 - v1) * (v4 - v1)");
+        int due9 = x.with(6, 4, true, 9);
+        int due13 = x.with(6, 4, true, 13);
+        int[][] others = {{5, 0, 1}, {7, 4, 1}, {6, 0, 1}, {6, 4, 0}};
+        for (int[] o : others) {
+            Due.isTrue("another machine answers otherwise: " + o[0] + " " + o[1] + " " + o[2],
+                    x.with(o[0], o[1], o[2] == 1, 9) != due9
+                    || x.with(o[0], o[1], o[2] == 1, 13) != due13);
+        }
+        Due.isTrue("9 and 13 are not the same", due9 != due13);
+        Due.is("digest()", x.digest(), WouldBeTest.digestOf(x, 2));
+    }
+
     private static void nothingIsChanged() {
         Due.says("what would be (nothing is changed)");
         SpillslotWorks x = rich();
@@ -345,5 +396,34 @@ public final class EdgeWouldBeTest {
             Due.is("latency(" + kind + ", ..)", x.latency(kind, latencies[kind]), latencies[kind]);
         }
         Due.is("digest() with all told as it was", x.digest(), before);
+    }
+
+    private static void machineIsAsTold() {
+        Due.says("what would be (nothing is changed)");
+        int[][] machines = {{5, 0, 30, 1}, {6, 4, 5, 0}, {9, 48, 99, 0}, {11, 252, 0, 1}};
+        for (int[] m : machines) {
+            for (int two = 0; two < 2; two++) {
+                SpillslotWorks x = rich();
+                x.latency(5, 7);
+                x.machine(m[0], m[1], m[2], m[3] == 1, two == 1);
+                int cycles = x.many(13);
+                int longer = x.unordered();
+                String name = "machine " + m[0] + ", " + m[1] + ", TWO " + two;
+                x.with(8, 28, two == 0, 13);
+                Due.is(name + ": cyclesWith() of the same", x.cyclesWith(5, 7), cycles);
+                x.with(7, 8, two == 0, 13);
+                Due.is(name + ": unordered()", x.unordered(), longer);
+                x.cyclesWith(5, 1);
+                Due.is(name + ": unordered() behind cyclesWith()", x.unordered(), longer);
+                SpillslotWorks y = rich();
+                y.with(8, 28, two == 0, 13);
+                y.latency(5, 7);
+                y.machine(m[0], m[1], m[2], m[3] == 1, two == 1);
+                y.latency(0, 4);
+                x.enough();
+                Due.is(name + ": cyclesWith() of another", x.cyclesWith(0, 4), y.many(13));
+                Due.is(name + ": with() of the same", x.with(m[0], m[1], two == 1, 13), cycles);
+            }
+        }
     }
 }

@@ -207,7 +207,8 @@ public final class WouldBeTest {
         Due.is("digest() with all in OUT", x.digest(), digestOf(x, 255));
     }
 
-    private static long digestOf(SpillslotWorks x, int out) {
+    /** Put together from what the other methods answer. */
+    static long digestOf(SpillslotWorks x, int out) {
         long d = 58132;
         for (int what = 0; what < 16; what++) {
             d = d * 31 + x.many(what);
