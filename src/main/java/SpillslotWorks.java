@@ -946,7 +946,7 @@ public final class SpillslotWorks {
         }
     }
 
-    /** The instructions as they were chosen, then by POINTS in their ORDER (Terms 4), with lives. */
+    /** The instructions as they were chosen, then in their ORDER (Terms 4), with their lives. */
     private static final class Plan {
         final Choice choice;
         final Instructions lines;

@@ -47,7 +47,8 @@ public final class EdgeCodeTest {
     }
 
     private static void readsComeFirst() {
-        Due.says("What it reads and is SPILLED comes first, in the order in which it is read: LOAD x "
+        Due.says("What it reads and is SPILLED comes first, in the order in which it is "
+                + "read: LOAD x "
                 + "n from the SLOT n");
         SpillslotWorks x = slots(false, "2: v4 = v3 * v1 + v2");
         Told.codeFrom(8, "as they are read", x, "8 CALL", "9 LOAD 5 2", "9 LOAD 6 0",
@@ -57,7 +58,8 @@ public final class EdgeCodeTest {
     }
 
     private static void readsByTheirPlace() {
-        Due.says("into S, if it is the first one that it reads, S + 1, if the second, S + 2, if the "
+        Due.says("into S, if it is the first one that it reads, S + 1, if the second, S + 2, "
+                + "if the "
                 + "third one (of all that it reads, SPILLED or not;");
         SpillslotWorks x = slots(false, "2: v5 = 50", "2: v6 = 60", "2: v4 = v5 * v6 + v1",
                 "3: v7 = v2 + v2", "3: v7 = v3 + v3");

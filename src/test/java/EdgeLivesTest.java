@@ -128,7 +128,8 @@ public final class EdgeLivesTest {
     }
 
     private static void crossesNotFirst() {
-        Due.says("It CROSSES a CALL at a POINT that is behind its first and ahead of its last one.");
+        Due.says("It CROSSES a CALL at a POINT that is behind its first and ahead of its last "
+                + "one.");
         SpillslotWorks x = Told.program(2, "0: v1 = c(v2, v3)", "1: v4 = 5");
         Told.value("v1 begins at the CALL", x, 1, 2, 4, 33, 0, -1, 0, 0, 1);
         Told.value("v4 begins behind it", x, 4, 3, 3, 100, 1, -1, 0, 0, 1);
@@ -136,7 +137,8 @@ public final class EdgeLivesTest {
     }
 
     private static void crossesNotLast() {
-        Due.says("It CROSSES a CALL at a POINT that is behind its first and ahead of its last one.");
+        Due.says("It CROSSES a CALL at a POINT that is behind its first and ahead of its last "
+                + "one.");
         SpillslotWorks x = Told.program(0, "0: v1 = c(v2, v3)", "1: v4 = v3");
         Told.value("v2 ends at the CALL", x, 2, 0, 2, 66, 0, -1, 0, 0, 2);
         Told.value("v3 ends one behind it", x, 3, 1, 3, 100, 2, -1, 0, 1, 3);
@@ -144,7 +146,8 @@ public final class EdgeLivesTest {
     }
 
     private static void crossesByCarrying() {
-        Due.says("It CROSSES a CALL at a POINT that is behind its first and ahead of its last one.");
+        Due.says("It CROSSES a CALL at a POINT that is behind its first and ahead of its last "
+                + "one.");
         SpillslotWorks x = Told.program(0, "0: v4 = v1", "1: v5 = c(v2, v3)");
         Told.value("v1 ends in BLOCK 0", x, 1, 0, 3, 50, 0, -1, 0, 0, 2);
         x.times(0, 2);
@@ -157,7 +160,8 @@ public final class EdgeLivesTest {
     }
 
     private static void crossesToEnd() {
-        Due.says("It CROSSES a CALL at a POINT that is behind its first and ahead of its last one.");
+        Due.says("It CROSSES a CALL at a POINT that is behind its first and ahead of its last "
+                + "one.");
         SpillslotWorks x = Told.program(2, "3: v5 = c(v1, v1)");
         Told.value("v1 is to END, and the last POINT is a CALL", x, 1, 0, 2, 100, 2, -1, 0, 1, 3);
         x.out(0);

@@ -125,7 +125,8 @@ public final class EdgeRunTest {
     }
 
     private static void lastWriteCounts() {
-        Due.says("What it writes (0 by CALL; a SLOT is ready at once) is ready as many CYCLES behind "
+        Due.says("What it writes (0 by CALL; a SLOT is ready at once) is ready as many "
+                + "CYCLES behind "
                 + "its begin as its LATENCY");
         SpillslotWorks x = Told.program(0, "0: v1 = v3 * v3", "1: v1 = 5", "2: v4 = v1 + 1");
         x.latency(3, 9);
@@ -260,7 +261,8 @@ public final class EdgeRunTest {
     }
 
     private static void countsOfTheCode() {
-        Due.says("9 how long the CODE is, 10 MOVES in it, 11 LOADS and STORES in it, 12 instructions "
+        Due.says("9 how long the CODE is, 10 MOVES in it, 11 LOADS and STORES in it, 12 "
+                + "instructions "
                 + "of a RUN");
         SpillslotWorks x = stored();
         x.times(2, 9);

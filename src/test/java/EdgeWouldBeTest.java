@@ -193,7 +193,8 @@ public final class EdgeWouldBeTest {
     }
 
     private static void enoughAtLeastFive() {
-        Due.says("Returns how many REGISTERS (5 to 11) are the fewest with which nothing is SPILLED");
+        Due.says("Returns how many REGISTERS (5 to 11) are the fewest with which nothing is "
+                + "SPILLED");
         for (int v = 0; v < 3; v++) {
             SpillslotWorks x = Told.program((1 << v) - 1);
             Due.is(v + " at once", x.enough(), 5);
@@ -204,7 +205,8 @@ public final class EdgeWouldBeTest {
     }
 
     private static void enoughAtMostEleven() {
-        Due.says("Returns how many REGISTERS (5 to 11) are the fewest with which nothing is SPILLED");
+        Due.says("Returns how many REGISTERS (5 to 11) are the fewest with which nothing is "
+                + "SPILLED");
         SpillslotWorks x = Told.program(255);
         Due.is("eight at once", x.enough(), 11);
         x.machine(5, 0, 15, true, false);
@@ -301,7 +303,8 @@ public final class EdgeWouldBeTest {
     }
 
     private static void digestOfNothing() {
-        Due.says("A number d starts with 58132; for each of the following numbers v, d becomes d * 31 "
+        Due.says("A number d starts with 58132; for each of the following numbers v, d "
+                + "becomes d * 31 "
                 + "+ v");
         // many() and meant() are 24 times 0; enough() is 5; unordered() and with() are 3 times 0.
         long d = 58132L;

@@ -310,8 +310,8 @@ public final class RefusalTest {
         int places = first.many(9);
         int count = first.many(0);
         String due = seen(first);
-        for (int k : new int[] {LEAST, -1, 0, 1, 2, 3, 7, 8, 9, points - 1, points, places - 1, places,
-            count - 1, count, 79, 80, 87, 88, MOST}) {
+        for (int k : new int[] {LEAST, -1, 0, 1, 2, 3, 7, 8, 9, points - 1, points, places - 1,
+            places, count - 1, count, 79, 80, 87, 88, MOST}) {
             for (int what : new int[] {LEAST, -1, 0, 3, 4, 5, 6, 7, 8, 16, MOST}) {
                 ask("chosen", k, what, k >= 0 && k < points, 7, due, x -> x.chosen(k, what));
                 // Nine VALUES: 0 to 7, and 8 for v4 - 11, which is read by the CALL.
